@@ -35,7 +35,7 @@ public final class RoadTrace {
      * A LEAST WAY goes at most 62 times onto a ROAD: FEES stay under 6139, LENGTH under 49601, all within an int.
      */
     private static final int WEIGHT = 10000;
-    private static final int FAR = Integer.MAX_VALUE;
+    private static final int FAR = 2000000000;
 
     /** In place of a slot: no SPOT at all. */
     private static final int NO_SLOT = -1;
@@ -75,9 +75,6 @@ public final class RoadTrace {
         }
         if (!isWithin(kind, KIND_ROAD, KIND_TOLLED) || !isFeeOfKind(fee, kind)) {
             return NONE;
-        }
-        if (net.roads >= MAX_ROADS) {
-            return FULL;
         }
         forgetWays();
         return net.addRoad(a, b, length, kind, fee);
@@ -128,9 +125,6 @@ public final class RoadTrace {
         if (!isWithin(tick, 0, MAX_TICK) || tick <= found.lastTick()) {
             return NONE;
         }
-        if (found.sights >= MAX_SIGHTS) {
-            return FULL;
-        }
         laying.forget();
         return found.addSight(where / PAIR, where % PAIR, tick, bound);
     }
@@ -180,12 +174,7 @@ public final class RoadTrace {
     }
 
     public int cost(int drive) {
-        Drive found = findDrive(drive);
-        if (found == null) {
-            return NONE;
-        }
-        laying.settle(found);
-        return laying.leastCost;
+        return laying.settle(findDrive(drive));
     }
 
     public int laid(int drive, int sight) {
@@ -228,8 +217,7 @@ public final class RoadTrace {
         if (found == null || !isWithin(d, 0, MAX_SURE)) {
             return NONE;
         }
-        laying.settle(found);
-        return laying.sameInEnds(laying.leastCost + d);
+        return laying.sameInEnds(laying.settle(found) + d);
     }
 
     public int toll(int drive) {
@@ -258,12 +246,12 @@ public final class RoadTrace {
             return STATE;
         }
         for (int i = 0; i < driveCount; i++) {
-            costs[i] = cost(i);
+            costs[i] = laying.settle(drives[i]);
         }
         changeKind(road, KIND_ROAD);
         int cheaper = 0;
         for (int i = 0; i < driveCount; i++) {
-            if (cost(i) < costs[i]) {
+            if (laying.settle(drives[i]) < costs[i]) {
                 cheaper++;
             }
         }
@@ -559,7 +547,6 @@ public final class RoadTrace {
         int loss = 200;
         final int[] spotCount = new int[MAX_SIGHTS];
         final int[] spotPoint = new int[MAX_SIGHTS * MAX_SPOTS];
-        int leastCost;
         final int[] leastRow = new int[MAX_SIGHTS];
 
         private final Net net;
@@ -573,6 +560,7 @@ public final class RoadTrace {
         private final int[] otherRow = new int[MAX_SIGHTS];
         private Drive gathered;
         private boolean isSettled;
+        private int leastCost;
         private int sights;
 
         Laying(Net net, Ways ways) {
@@ -582,7 +570,6 @@ public final class RoadTrace {
 
         void forget() {
             gathered = null;
-            isSettled = false;
         }
 
         void gather(Drive drive) {
@@ -597,10 +584,14 @@ public final class RoadTrace {
             }
         }
 
-        void settle(Drive drive) {
+        /** Finds ENDS and LAID of a DRIVE: COST of LAID. NONE: there is no DRIVE. */
+        int settle(Drive drive) {
+            if (drive == null) {
+                return NONE;
+            }
             gather(drive);
             if (isSettled) {
-                return;
+                return leastCost;
             }
             for (int sight = 0; sight < sights; sight++) {
                 for (int i = 0; i < spotCount[sight]; i++) {
@@ -609,6 +600,7 @@ public final class RoadTrace {
             }
             chooseLeast();
             isSettled = true;
+            return leastCost;
         }
 
         private void findSpots(int sight, int x, int y, int bound) {
@@ -656,13 +648,13 @@ public final class RoadTrace {
         private void findRowTo(int sight, int slot, int[] tick) {
             int best = loss * sight;
             int bestAhead = NO_SLOT;
-            for (int earlier = 0; earlier < sight; earlier++) {
+            for (int earlier = sight - 1; earlier >= 0; earlier--) {
                 int lost = loss * (sight - earlier - 1);
                 int most = longestLeg(tick[sight] - tick[earlier]);
                 for (int i = 0; i < spotCount[earlier]; i++) {
                     int ahead = earlier * MAX_SPOTS + i;
                     int sum = costTo[ahead] + lost;
-                    // A WAY only adds to the sum, so most of the WAYS need not be looked for.
+                    // A WAY only adds to the sum, so behind near SIGHTS most WAYS from far ones need no look.
                     int leg = sum > best ? NO_WAY : legLength(spotPoint[ahead], spotPoint[slot], most);
                     if (leg >= 0) {
                         sum += leg / QUARTERS;
