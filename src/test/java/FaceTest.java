@@ -1,3 +1,5 @@
+import com.sun.management.ThreadMXBean;
+import java.lang.management.ManagementFactory;
 import java.lang.reflect.Constructor;
 import java.lang.reflect.Field;
 import java.lang.reflect.Method;
@@ -12,7 +14,7 @@ import java.util.regex.Pattern;
 
 /** The public face of the document, and those rules of LANGUAGE.md that can be seen from the class and its text. */
 public final class FaceTest {
-    private static final Set<String> CONSTANTS = Set.of("NONE", "FULL", "STATE", "NO_WAY");
+    private static final Set<String> CONSTANTS = Set.of("NONE = -1", "FULL = -2", "STATE = -3", "NO_WAY = -4");
     private static final Set<String> METHODS = Set.of("knot 2", "road 4", "bar 3", "way 2", "fees 2", "drive 0",
         "sight 4", "drop 1", "prices 2", "spot 3", "off 3", "cost 1", "laid 2", "check 1", "list 1", "sure 2",
         "toll 1", "speed 2", "against 1", "count 1");
@@ -22,6 +24,8 @@ public final class FaceTest {
     private static final int MOST_LINES = 60;
     private static final int MOST_PARAMETERS = 7;
     private static final int MOST_FIELDS = 20;
+    /** Far under the room that all calls of a run share, 7.3 million fields and elements. */
+    private static final long MOST_BYTES_OF_A_RUN = 200000;
 
     private static final List<String> faults = new ArrayList<>();
 
@@ -35,6 +39,7 @@ public final class FaceTest {
         faceIsTheDocuments();
         classesInsideKeepTheRules();
         textKeepsTheRules(Files.readString(Path.of("src/main/java/RoadTrace.java")));
+        runsMakeLittle();
         for (String fault : faults) {
             System.out.println(fault);
         }
@@ -44,7 +49,7 @@ public final class FaceTest {
         }
     }
 
-    private static void faceIsTheDocuments() {
+    private static void faceIsTheDocuments() throws IllegalAccessException {
         Class<?> desk = RoadTrace.class;
         must(Modifier.isPublic(desk.getModifiers()) && Modifier.isFinal(desk.getModifiers()), "RoadTrace: public final");
         Constructor<?>[] constructors = desk.getDeclaredConstructors();
@@ -56,6 +61,10 @@ public final class FaceTest {
             if (!Modifier.isPrivate(method.getModifiers())) {
                 must(Modifier.isPublic(method.getModifiers()) && !Modifier.isStatic(method.getModifiers())
                     && method.getReturnType() == int.class, "public int: " + method);
+                for (Class<?> parameter : method.getParameterTypes()) {
+                    must(parameter == int.class, "takes int alone: " + method);
+                }
+                must(method.getExceptionTypes().length == 0, "throws nothing: " + method);
                 methods.add(method.getName() + " " + method.getParameterCount());
                 names.add(method.getName());
             }
@@ -69,8 +78,8 @@ public final class FaceTest {
         for (Field field : desk.getDeclaredFields()) {
             if (!Modifier.isPrivate(field.getModifiers())) {
                 must(Modifier.isPublic(field.getModifiers()) && Modifier.isStatic(field.getModifiers())
-                    && Modifier.isFinal(field.getModifiers()), "a constant: " + field);
-                constants.add(field.getName());
+                    && Modifier.isFinal(field.getModifiers()) && field.getType() == int.class, "a constant: " + field);
+                constants.add(field.getName() + " = " + field.get(null));
             }
         }
         must(constants.equals(new TreeSet<>(CONSTANTS)), "constants: " + constants);
@@ -113,5 +122,37 @@ public final class FaceTest {
                 must(i - start < MOST_LINES, "long method at line " + (start + 1));
             }
         }
+    }
+
+    private static void runsMakeLittle() {
+        ThreadMXBean threads = (ThreadMXBean) ManagementFactory.getThreadMXBean();
+        long self = Thread.currentThread().getId();
+        long before = threads.getThreadAllocatedBytes(self);
+        int answers = dearestRun();
+        long bytes = threads.getThreadAllocatedBytes(self) - before;
+        must(answers != 0, "the dearest run answers");
+        must(bytes <= MOST_BYTES_OF_A_RUN, "a run of 512 calls makes so many bytes: " + bytes);
+    }
+
+    /** 512 calls that fill the desk and then ask for what takes the most work. */
+    private static int dearestRun() {
+        RoadTrace x = new RoadTrace();
+        int answers = 0;
+        for (int i = 0; i < 16; i++) {
+            answers += x.knot(50 + i % 4, 50 + i / 4);
+        }
+        for (int i = 0; i < 30; i++) {
+            answers += x.road(100 * (i % 16) + (i * 7 + 1) % 16, 1 + i % 4, i % 2, 0);
+        }
+        for (int i = 0; i < 6; i++) {
+            answers += x.drive();
+        }
+        for (int i = 0; i < 120; i++) {
+            answers += x.sight(i % 6, 5050 + i % 4 + i / 6 % 4 * 100, 1 + i / 6, 60);
+        }
+        for (int i = 172; i < 512; i++) {
+            answers += i % 2 == 0 ? x.against(1) : x.sure(i % 6, 100000);
+        }
+        return answers;
     }
 }
