@@ -352,27 +352,13 @@ public final class AnswerTermsTest extends Sentences {
 
     @Says({"An object is used for at most 512 calls after it has been made; what later calls answer is free."})
     static void holdsFor512Calls() {
-        RoadTrace x = new RoadTrace();
-        int calls = 0;
-        int numbers = 0;
-        for (int i = 0; i < 16; i++, calls++) {
-            numbers += x.knot(50 + i % 4, 50 + i / 4);
-        }
-        for (int i = 0; i < 30; i++, calls++) {
-            numbers += x.road(100 * (i % 16) + (i * 7 + 1) % 16, 1 + i % 4, i % 2, 0);
-        }
-        for (int i = 0; i < 6; i++, calls++) {
-            numbers += x.drive();
-        }
-        for (int i = 0; i < 120; i++, calls++) {
-            numbers += x.sight(i % 6, 5050 + i % 4 + i / 6 % 4 * 100, 1 + i / 6, 60);
-        }
-        due("all are made", numbers, 120 + 435 + 15 + 6 * 190);
+        RoadTrace x = fullest();
+        due("sights", x.count(3), 120);
+        due("spots", x.spot(5, 19, -1), 10);
         int cost = x.cost(0);
         int against = x.against(1);
-        calls += 2;
-        for (; calls < 510; calls++) {
-            x.against(1 + calls % 15 * 2);
+        for (int call = 172 + 4; call < 510; call++) {
+            x.against(1 + call % 15 * 2);
         }
         due("call 511", x.cost(0), cost);
         due("call 512", x.against(1), against);

@@ -128,31 +128,17 @@ public final class FaceTest {
         ThreadMXBean threads = (ThreadMXBean) ManagementFactory.getThreadMXBean();
         long self = Thread.currentThread().getId();
         long before = threads.getThreadAllocatedBytes(self);
-        int answers = dearestRun();
+        dearestRun();
         long bytes = threads.getThreadAllocatedBytes(self) - before;
-        must(answers != 0, "the dearest run answers");
         must(bytes <= MOST_BYTES_OF_A_RUN, "a run of 512 calls makes so many bytes: " + bytes);
     }
 
     /** 512 calls that fill the desk and then ask for what takes the most work. */
-    private static int dearestRun() {
-        RoadTrace x = new RoadTrace();
-        int answers = 0;
-        for (int i = 0; i < 16; i++) {
-            answers += x.knot(50 + i % 4, 50 + i / 4);
+    private static void dearestRun() {
+        RoadTrace x = Sentences.fullest();
+        for (int call = 172; call < 512; call += 2) {
+            must(x.against(1) >= 0, "AGAINST in the dearest run");
+            must(x.sure(call % 6, 100000) >= 0, "SURE in the dearest run");
         }
-        for (int i = 0; i < 30; i++) {
-            answers += x.road(100 * (i % 16) + (i * 7 + 1) % 16, 1 + i % 4, i % 2, 0);
-        }
-        for (int i = 0; i < 6; i++) {
-            answers += x.drive();
-        }
-        for (int i = 0; i < 120; i++) {
-            answers += x.sight(i % 6, 5050 + i % 4 + i / 6 % 4 * 100, 1 + i / 6, 60);
-        }
-        for (int i = 172; i < 512; i++) {
-            answers += i % 2 == 0 ? x.against(1) : x.sure(i % 6, 100000);
-        }
-        return answers;
     }
 }

@@ -87,6 +87,23 @@ public final class LayingPromisesTest extends Sentences {
         due("20 in 10 ticks are too fast, 40 in 20 as well", laid(x, 0, 4), "0 -5 -5 -5");
     }
 
+    @Says("The POINT of a SIGHT in LAID; -5: LEFT.")
+    static void laidAtAKnotIsTheLesserPoint() {
+        RoadTrace x = new RoadTrace();
+        x.knot(0, 0);
+        x.knot(20, 0);
+        x.knot(40, 0);
+        x.road(102, 20, ROAD, 0);
+        x.road(1, 20, ROAD, 0);
+        x.drive();
+        x.sight(0, 0, 0, 1);
+        x.sight(0, 2000, 5, 1);
+        x.sight(0, 4000, 9, 1);
+        due("0 and 9 lie at the knot in the middle", laid(x, 0, 3), "5 0 4");
+        x.bar(1, 0, 1);
+        due("without the turn there one is left", laid(x, 0, 3), "5 9 -5");
+    }
+
     @Says("The POINT of a SIGHT in LAID; -5: LEFT. NONE.")
     static void laidOfNoSight() {
         due("no drives", new RoadTrace().laid(0, 0), NONE);
@@ -366,6 +383,19 @@ public final class LayingPromisesTest extends Sentences {
         due("0 2 and 5 7 cost 20", x.sure(0, 0), 0);
     }
 
+    @Says("SURE by d (0 .. 100000): how many SIGHTS.")
+    static void sureOfEndsThatDifferInTheLast() {
+        RoadTrace x = oneRoad(40, ROAD, 0);
+        x.drive();
+        x.sight(0, 0, 0, 0);
+        x.sight(0, 0, 10, 0);
+        x.sight(0, 4000, 20, 0);
+        x.prices(20, 40);
+        // 0 0 4 costs 40, and so does 0 0 LEFT.
+        due("the row that is laid", laid(x, 0, 3), "0 0 4");
+        due("all but the last", x.sure(0, 0), 2);
+    }
+
     @Says("SURE by d (0 .. 100000): how many SIGHTS. NONE.")
     static void sureOfNoDrive() {
         due("no drives", new RoadTrace().sure(0, 0), NONE);
@@ -512,6 +542,25 @@ public final class LayingPromisesTest extends Sentences {
         due("a drive more", x.against(0), 2);
         x.drop(1);
         due("but not with one sight", x.against(0), 1);
+    }
+
+    @Says("AGAINST. NONE: no such ROAD; STATE: it is no ONEWAY.")
+    static void againstWithATunnelBeside() {
+        RoadTrace x = oneRoad(40, ONEWAY, 0);
+        x.road(1, 40, TUNNEL, 0);
+        x.road(1, 41, ONEWAY, 0);
+        for (int i = 0; i < 6; i++) {
+            x.drive();
+            x.sight(i, 4000, 0, 0);
+            x.sight(i, 0, 5, 0);
+        }
+        // The TUNNEL has no SPOTS, but a WAY back, as long as the one oneway and shorter than the other.
+        due("the tunnel is as good", x.against(0), 0);
+        due("the tunnel is better", x.against(2), 0);
+        x.bar(0, 1, 1);
+        x.bar(2, 1, 1);
+        due("without it all six go against the one", x.against(0), 6);
+        due("and all six against the other", x.against(2), 6);
     }
 
     @Says("How many: 0 KNOTS, 1 ROADS, 2 DRIVES, 3 SIGHTS in all, 4 on THE LIST.")

@@ -107,6 +107,24 @@ abstract class Sentences {
         return x;
     }
 
+    /** A desk without room for more: 172 calls make 16 KNOTS, 30 ROADS, 6 DRIVES of 20 SIGHTS, each with 10 SPOTS. */
+    static RoadTrace fullest() {
+        RoadTrace x = new RoadTrace();
+        for (int i = 0; i < 16; i++) {
+            x.knot(50 + i % 4, 50 + i / 4);
+        }
+        for (int i = 0; i < 30; i++) {
+            x.road(100 * (i % 16) + (i * 7 + 1) % 16, 1 + i % 4, i % 2 == 0 ? ROAD : ONEWAY, 0);
+        }
+        for (int i = 0; i < 6; i++) {
+            x.drive();
+        }
+        for (int i = 0; i < 120; i++) {
+            x.sight(i % 6, 5050 + i % 4 + i / 6 % 4 * 100, 1 + i / 6, 60);
+        }
+        return x;
+    }
+
     static void tell(RoadTrace x, int... points) {
         for (int i = 0; i < points.length; i++) {
             due("list " + points[i], x.list(points[i]), i + 1);
