@@ -16,7 +16,7 @@ public final class DocumentTest {
     public static void main(String[] args) throws IOException {
         if (!Files.exists(DOCUMENT)) {
             System.out.println("there is no " + DOCUMENT + " to hold the tests against");
-            return;
+            System.exit(1);
         }
         String document = promisedText(Files.readString(DOCUMENT));
         boolean[] isSaid = new boolean[document.length()];

@@ -10,6 +10,7 @@ import java.util.ArrayList;
 import java.util.List;
 import java.util.Set;
 import java.util.TreeSet;
+import java.util.regex.Matcher;
 import java.util.regex.Pattern;
 
 /** The public face of the document, and those rules of LANGUAGE.md that can be seen from the class and its text. */
@@ -38,7 +39,9 @@ public final class FaceTest {
     public static void main(String[] args) throws Exception {
         faceIsTheDocuments();
         classesInsideKeepTheRules();
-        textKeepsTheRules(Files.readString(Path.of("src/main/java/RoadTrace.java")));
+        String text = Files.readString(Path.of("src/main/java/RoadTrace.java"));
+        textHasTheFace(text, Files.readString(Path.of("../shared/DOC.md")));
+        textKeepsTheRules(text);
         runsMakeLittle();
         for (String fault : faults) {
             System.out.println(fault);
@@ -83,6 +86,19 @@ public final class FaceTest {
             }
         }
         must(constants.equals(new TreeSet<>(CONSTANTS)), "constants: " + constants);
+    }
+
+    /** Word for word, so that the names of parameters are the document's, too. */
+    private static void textHasTheFace(String text, String document) {
+        Matcher face = Pattern.compile("(?s)```java\n(.*?)```").matcher(document);
+        String[] lines = face.find() ? face.group(1).split("\n") : new String[0];
+        int members = 0;
+        for (String line : lines) {
+            String due = line.endsWith(");") ? line.substring(0, line.length() - 1) + " {" : line;
+            must(text.contains(due + "\n"), "the document's face has: " + due);
+            members += line.endsWith(";") ? 1 : 0;
+        }
+        must(members == METHODS.size() + 2, "members of the document's face: " + members);
     }
 
     private static void classesInsideKeepTheRules() {
